@@ -504,7 +504,7 @@ public final class QuarrelSales {
         return row.holds(i, 3) && sale(row.items[i], row.items[i + 1], row.items[i + 2]) >= 0;
     }
 
-    /** Who holds what, and the SUITS: all that a SALE for nothing changes, so that one is tried on a copy of it alone. */
+    /** Who holds what, and the SUITS: all that a SALE for nothing changes, so a copy of this alone does to try one. */
     private static final class Court {
         final int[] laws = new int[2];
         final int[] hands = new int[THINGS];
@@ -541,21 +541,17 @@ public final class QuarrelSales {
             return suit;
         }
 
-        /** Only a THING can have THE PARISH stand on its SIDE, so its standing there is what LAW 1 looks for. */
-        private boolean ends(int suit) {
-            int one = standing(firsts[suit]);
-            int other = standing(seconds[suit]);
-            if (one == PARISH || other == PARISH) {
-                return laws[1] == 1;
-            }
-            return one == other;
-        }
-
-        /** How many SUITS come to be OVER: once OVER they are never looked at again. */
+        /**
+         * How many SUITS come to be OVER. THE PARISH can stand on a SIDE only by a THING, so for
+         * LAW 1 it is enough that it stands there.
+         */
         int settle() {
             int came = 0;
             for (int suit = 0; suit < suits; suit++) {
-                if (!isOver(suit) && ends(suit)) {
+                int one = standing(firsts[suit]);
+                int other = standing(seconds[suit]);
+                boolean ends = one == PARISH || other == PARISH ? laws[1] == 1 : one == other;
+                if (ends && !isOver(suit)) {
                     overs |= 1 << suit;
                     came++;
                 }
@@ -826,7 +822,10 @@ public final class QuarrelSales {
             return false;
         }
 
-        /** The THINGS whose SALE can help: none where a SUIT has become one between two of PEOPLE, and as the last SALE only a SIDE of every SUIT left. */
+        /**
+         * The THINGS whose SALE can help: none where a SUIT has become one between two of PEOPLE by
+         * LAW 0, and as the last SALE only a SIDE of every SUIT left.
+         */
         private int usefulThings(int stage, int left, int spared) {
             Court court = stages[stage];
             int any = 0;

@@ -265,6 +265,7 @@ public final class PromiseTest {
         QuarrelSales x = new QuarrelSales();
         due("n 0", x.type(65, 0), -1);
         due("n 9", x.type(65, 9), -1);
+        due("n 9 of good bytes", x.type(0x4141414141414141L, 9), -1);
         due("n -1", x.type(65, -1), -1);
         due("31", x.type(31, 1), -1);
         due("127", x.type(127, 1), -1);
