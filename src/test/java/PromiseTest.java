@@ -1,77 +1,5 @@
 /** The promises of DOC.md one by one: ordinary inputs, the edges that it names, wrong inputs. */
-public final class PromiseTest {
-    private static int wrong = 0;
-    private static int looked = 0;
-    private static String promise = "";
-
-    private static void due(String call, int got, int want) {
-        looked++;
-        if (got != want) {
-            wrong++;
-            System.out.println(promise + ": " + call + " answered " + got + ", due is " + want);
-        }
-    }
-
-    /** Types a text of any length, eight bytes at a time. */
-    private static void type(QuarrelSales x, String text) {
-        for (int i = 0; i < text.length(); i += 8) {
-            String piece = text.substring(i, Math.min(text.length(), i + 8));
-            long w = 0;
-            for (int k = 0; k < piece.length(); k++) {
-                w = w << 8 | piece.charAt(k);
-            }
-            if (x.type(w, piece.length()) < 0) {
-                throw new IllegalStateException("not typed: " + text);
-            }
-        }
-    }
-
-    private static int village(QuarrelSales x, String text) {
-        type(x, text);
-        return x.village();
-    }
-
-    private static int suits(QuarrelSales x, String text) {
-        type(x, text);
-        return x.suits();
-    }
-
-    private static QuarrelSales with(String things, String suits) {
-        QuarrelSales x = new QuarrelSales();
-        if (village(x, things) < 1 || !suits.isEmpty() && suits(x, suits) < 1) {
-            throw new IllegalStateException("not a village: " + things + " " + suits);
-        }
-        return x;
-    }
-
-    /** What the state answers, so that "changes nothing" can be looked at. */
-    private static String state(QuarrelSales x) {
-        StringBuilder s = new StringBuilder();
-        for (int w = 0; w < 5; w++) {
-            s.append(x.count(w)).append(' ');
-        }
-        for (int t = 0; t < 8; t++) {
-            s.append(x.hand(t)).append(' ');
-        }
-        for (int p = 0; p < 6; p++) {
-            s.append(x.purse(p)).append(':').append(x.value(p)).append(' ');
-        }
-        for (int q = 0; q < 12; q++) {
-            for (int w = 0; w < 5; w++) {
-                s.append(x.told(q, w)).append(w == 4 ? ' ' : ',');
-            }
-        }
-        return s.toString();
-    }
-
-    private static void same(String call, String got, String want) {
-        looked++;
-        if (!got.equals(want)) {
-            wrong++;
-            System.out.println(promise + ": " + call + " left " + got + ", due is " + want);
-        }
-    }
-
+public final class PromiseTest extends Bench {
     private static void newObject() {
         promise = "1 a new object";
         QuarrelSales x = new QuarrelSales();
@@ -85,13 +13,13 @@ public final class PromiseTest {
         }
         due("law 0", x.rule(0, 0), 0);
         due("law 1", x.rule(1, 0), 0);
-        due("restore()", x.restore(), QuarrelSales.NONE);
+        due("restore()", x.restore(), NONE);
         due("village() of no bytes", x.village(), -20);
         due("suits() of no bytes", x.suits(), -20);
-        due("hand(0)", x.hand(0), QuarrelSales.BAD);
-        due("told(0, 0)", x.told(0, 0), QuarrelSales.BAD);
+        due("hand(0)", x.hand(0), BAD);
+        due("told(0, 0)", x.told(0, 0), BAD);
         for (int s = 0; s < 4; s++) {
-            due("drop(" + s + ")", x.drop(s), QuarrelSales.NULL);
+            due("drop(" + s + ")", x.drop(s), NULL);
         }
     }
 
@@ -149,8 +77,8 @@ public final class PromiseTest {
             due("thing", x.thing(t % 7), t);
             due("hand", x.hand(t), t % 7);
         }
-        due("ninth", x.thing(0), QuarrelSales.FULL);
-        due("ninth, bad", x.thing(7), QuarrelSales.BAD);
+        due("ninth", x.thing(0), FULL);
+        due("ninth, bad", x.thing(7), BAD);
         due("worth at first", x.worth(3, 4, 1), 5);
         due("things", x.count(0), 8);
     }
@@ -198,8 +126,8 @@ public final class PromiseTest {
         for (int s = 6; s < 12; s++) {
             due("suit", x.suit(10, 11), s);
         }
-        due("thirteenth", x.suit(10, 11), QuarrelSales.FULL);
-        due("thirteenth, bad", x.suit(10, 10), QuarrelSales.BAD);
+        due("thirteenth", x.suit(10, 11), FULL);
+        due("thirteenth, bad", x.suit(10, 10), BAD);
         due("how many", x.count(1), 12);
     }
 
@@ -283,10 +211,10 @@ public final class PromiseTest {
             due("eight more", x.type(0x2020202020202020L, 8), 8 * k);
         }
         due("79", x.type(0x20202020202020L, 7), 79);
-        due("81", x.type(0x2020L, 2), QuarrelSales.FULL);
-        due("bad is named first", x.type(0x201FL, 2), QuarrelSales.BAD);
+        due("81", x.type(0x2020L, 2), FULL);
+        due("bad is named first", x.type(0x201FL, 2), BAD);
         due("80", x.type(0x20L, 1), 80);
-        due("81", x.type(0x20L, 1), QuarrelSales.FULL);
+        due("81", x.type(0x20L, 1), FULL);
         due("the end", x.village(), -100);
         due("empty then", x.type(0x20L, 1), 1);
     }
@@ -350,14 +278,14 @@ public final class PromiseTest {
             x.suits();
         }
         same("faults", state(x), before);
-        due("eight more", suits(x, "01,01,01,01,01,01,01,01"), QuarrelSales.FULL);
+        due("eight more", suits(x, "01,01,01,01,01,01,01,01"), FULL);
         same("full", state(x), before);
         due("the tape is empty then", x.type(65, 1), 1);
         x.suits();
         due("a fault ahead of full", suits(x, "01,01,01,01,01,01,01,01,"), -20 - 24);
         String twelve = "01,01,01,01,01,01,01,01,01,01,01,01";
         due("a thirteenth is a fault", suits(x, twelve + ",01"), -20 - 35);
-        due("twelve are none", suits(x, twelve), QuarrelSales.FULL);
+        due("twelve are none", suits(x, twelve), FULL);
         due("seven more", suits(x, "01,01,01,01,01,01,01"), 7);
         due("how many", x.count(1), 12);
         x = new QuarrelSales();
@@ -553,8 +481,8 @@ public final class PromiseTest {
         due("all suits", x.part(0, 31), 5);
         due("more", x.part(0, 0), 6);
         due("more", x.part(0, 0), 7);
-        due("ninth", x.part(0, 0), QuarrelSales.FULL);
-        due("bad ahead of full", x.part(0, 32), QuarrelSales.BAD);
+        due("ninth", x.part(0, 0), FULL);
+        due("bad ahead of full", x.part(0, 32), BAD);
     }
 
     private static void gain() {
@@ -883,13 +811,6 @@ public final class PromiseTest {
         due("none", new QuarrelSales().restore(), -4);
     }
 
-    private static void put(QuarrelSales x, int sheet, int lane, int... items) {
-        x.sheet(sheet, lane, items.length);
-        for (int i = 0; i < items.length; i++) {
-            due("item", x.item(sheet, lane, i, items[i]), 1);
-        }
-    }
-
     private static void deal() {
         promise = "33 deal";
         QuarrelSales x = with("0555555;1555555", "ab");
@@ -1070,9 +991,6 @@ public final class PromiseTest {
         sheets();
         copy();
         constants();
-        System.out.println(looked + " answers looked at, " + wrong + " not as due");
-        if (wrong != 0) {
-            System.exit(1);
-        }
+        end();
     }
 }
