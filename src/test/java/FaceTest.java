@@ -132,15 +132,18 @@ public final class FaceTest {
         com.sun.management.ThreadMXBean threads = (com.sun.management.ThreadMXBean) ManagementFactory.getThreadMXBean();
         long me = Thread.currentThread().getId();
         Counter c = new Counter();
-        QuarrelSales x = new QuarrelSales();
-        call(x, c);
+        QuarrelSales[] row = new QuarrelSales[40];
+        for (int k = 0; k < row.length; k++) {
+            row[k] = new QuarrelSales();
+            call(row[k], c);
+        }
         threads.getThreadAllocatedBytes(me);
         long before = threads.getThreadAllocatedBytes(me);
-        for (int k = 0; k < 20000; k++) {
-            call(x, c);
+        for (int k = 0; k < 511 * row.length; k++) {
+            call(row[k % row.length], c);
         }
         long made = threads.getThreadAllocatedBytes(me) - before;
-        hold(made < 20000, "20000 calls make no objects, but took " + made + " bytes");
+        hold(made < 20000, "so many calls make no objects, but took " + made + " bytes");
     }
 
     public static void main(String[] args) {

@@ -2,12 +2,17 @@ import java.io.PrintStream;
 
 /** Long runs of calls, told by a counter, on the class and on the Model: each answer must be the same. */
 public final class ModelTest {
-    private static final int RUNS = 250;
-    private static final int CALLS = 400;
+    private static final int RUNS = 2000;
+    /** Nothing is promised behind the 512th call. */
+    private static final int CALLS = 512;
+    /** A step takes as many calls at most: a text typed byte by byte, and read. */
+    private static final int DEAREST_STEP = 81;
+    private static final int ALL_TOLD = 146;
 
     private long seed;
     private QuarrelSales x;
     private Model m;
+    private int calls;
     private String call;
     private int got;
     private int want;
@@ -47,6 +52,7 @@ public final class ModelTest {
     }
 
     private void due(String what, int answered, int answer) {
+        calls++;
         if (got == want) {
             call = what;
             got = answered;
@@ -101,7 +107,7 @@ public final class ModelTest {
 
     private void type(String text) {
         for (int i = 0; i < text.length(); ) {
-            int n = Math.min(1 + below(8), text.length() - i);
+            int n = Math.min(once(3) ? 1 + below(8) : 8, text.length() - i);
             long w = below(1 << 16);
             for (int k = 0; k < n; k++) {
                 w = w << 8 | text.charAt(i + k);
@@ -111,7 +117,17 @@ public final class ModelTest {
         }
     }
 
-    private void told() {
+    private void villageOf(String text) {
+        type(text);
+        due("village()", x.village(), m.village());
+    }
+
+    private void suitsOf(String text) {
+        type(text);
+        due("suits()", x.suits(), m.suits());
+    }
+
+    private void toldAll() {
         for (int w = -1; w < 6; w++) {
             due("count(" + w + ")", x.count(w), m.count(w));
             for (int s = -1; s < 13; s++) {
@@ -119,11 +135,24 @@ public final class ModelTest {
             }
         }
         for (int k = -1; k < 9; k++) {
-            due("hand(" + k + ")", x.hand(k), m.hand(k));
-            due("purse(" + k + ")", x.purse(k), m.purse(k));
-            due("value(" + k + ")", x.value(k), m.value(k));
-            due("group(" + k + ")", x.group(k), m.group(k));
+            toldOf(k);
         }
+        due("never()", x.never(), m.never());
+    }
+
+    private void toldOf(int k) {
+        due("hand(" + k + ")", x.hand(k), m.hand(k));
+        due("purse(" + k + ")", x.purse(k), m.purse(k));
+        due("value(" + k + ")", x.value(k), m.value(k));
+        due("group(" + k + ")", x.group(k), m.group(k));
+    }
+
+    private void toldSome() {
+        toldOf(below(8));
+        int s = below(12);
+        int w = below(5);
+        due("told(" + s + ", " + w + ")", x.told(s, w), m.told(s, w));
+        due("count(" + w + ")", x.count(w), m.count(w));
         due("never()", x.never(), m.never());
     }
 
@@ -136,8 +165,8 @@ public final class ModelTest {
             case 3: worth(aThing(), about(6), about(100)); break;
             case 4: case 5: suit(aSide(), aSide()); break;
             case 6: type((long) below(1 << 30) << 32 | below(1 << 30), about(9)); break;
-            case 7: case 8: if (once(3)) { type(blurred(villageText())); due("village()", x.village(), m.village()); } break;
-            case 9: case 10: type(blurred(suitsText())); due("suits()", x.suits(), m.suits()); break;
+            case 7: case 8: if (once(3)) { villageOf(blurred(villageText())); } break;
+            case 9: case 10: suitsOf(blurred(suitsText())); break;
             case 11: case 12: case 13: case 14: sale(aThing(), about(6), aPrice()); break;
             case 15: case 16: swap(aThing(), aThing()); break;
             case 17: give(aThing()); break;
@@ -275,17 +304,25 @@ public final class ModelTest {
     private boolean run(int number, PrintStream out) {
         x = new QuarrelSales();
         m = new Model();
-        for (int k = 0; k < CALLS; k++) {
+        if (!once(5)) {
+            villageOf(villageText());
+            suitsOf(suitsText());
+        }
+        for (int step = 0; calls + DEAREST_STEP + ALL_TOLD <= CALLS; step++) {
             callOne();
-            if (once(3)) {
-                told();
+            if (once(6)) {
+                toldSome();
             }
             if (got != want) {
-                out.println("run " + number + ", step " + k + ": " + call + " answered " + got + ", due is " + want);
+                out.println("run " + number + ", step " + step + ": " + call + " answered " + got + ", due is " + want);
                 return false;
             }
         }
-        return true;
+        toldAll();
+        if (got != want) {
+            out.println("run " + number + ", at its end: " + call + " answered " + got + ", due is " + want);
+        }
+        return got == want;
     }
 
     public static void main(String[] args) {
