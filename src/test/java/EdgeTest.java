@@ -287,7 +287,8 @@ public final class EdgeTest extends Bench {
 
     private static void villageKeepsTheRest() {
         promise = "12 THINGS in place of those told (no SUITS then), all else stays";
-        QuarrelSales x = with("0123456;1123456", "ab,a2,01");
+        QuarrelSales x = with("0123456;1123456", "0a,ab,a2,01");
+        due("one is OVER", x.count(2), 1);
         x.rule(0, 1);
         x.rule(1, 1);
         x.person(4, 1, 44);
@@ -310,6 +311,11 @@ public final class EdgeTest extends Bench {
         due("SHEET stays", x.drop(1), 1);
         due("IMAGE stays", x.restore(), 1);
         due("as it was then", x.count(0), 2);
+        village(x, EIGHT.substring(0, 48) + "-012345;4987654");
+        for (int p = 0; p < 6; p++) {
+            due("WORTH to each, of the seventh", x.worth(6, p, 50), p);
+            due("WORTH to each, of the eighth", x.worth(7, p, 50), 9 - p);
+        }
         for (String fault : new String[] {"", "0", "6123456", "0123456;0", EIGHT + ";1"}) {
             x = with("0123456;1123456", "ab,a2,01");
             village(x, fault);
@@ -558,6 +564,16 @@ public final class EdgeTest extends Bench {
                 due("old", x.worth(0, p, 7), row[2]);
             }
         }
+        QuarrelSales y = with("0000000;1123456;2000000;3097531", "");
+        due("of the last THING", y.part(3, 0), 4);
+        due("of one in the midst", y.part(1, 0), 5);
+        int[] worths = {0, 9, 7, 5, 3, 1};
+        for (int p = 0; p < 6; p++) {
+            due("new", y.worth(4, p, 0), worths[p] / 2);
+            due("old", y.worth(3, p, 0), worths[p] - worths[p] / 2);
+            due("new", y.worth(5, p, 0), (p + 1) / 2);
+            due("old", y.worth(1, p, 0), p + 1 - (p + 1) / 2);
+        }
         due("no SUITS, no set", with("0555555", "").part(0, 0), 1);
         due("no SUITS, a set", with("0555555", "").part(0, 1), BAD);
         QuarrelSales x = with("0555555", "a1,a2,a3,a4,a5,1a,2a,3a,4a,5a,12,0a");
@@ -688,6 +704,14 @@ public final class EdgeTest extends Bench {
         x = with("0555555;-555555", "");
         x.worth(1, 0, 99);
         due("THE PARISH agrees to none", x.rest(60), 0);
+        x = with("0100000", "a5");
+        x.worth(0, 3, 1);
+        x.person(3, 0, 0);
+        x.person(3, 1, 0);
+        due("for nothing", x.agreed(0, 3), 0);
+        due("it is made, too", x.rest(1), 1);
+        due("hand", x.hand(0), 3);
+        due("purse", x.purse(0), 50);
     }
 
     private static void groups() {
@@ -759,6 +783,11 @@ public final class EdgeTest extends Bench {
         x = with("-555555;-555555", "ab");
         x.rule(1, 1);
         due("by LAW 1 all are OVER", x.fewest(-1), 0);
+        x = with("0555555", "a1,a2");
+        x.rule(1, 1);
+        due("a SALE is to one of PEOPLE, though a GIFT would end both", x.fewest(-1), 2);
+        due("a to 1", x.fewest(0), 1);
+        due("a to 2", x.fewest(1), 2);
         x = with("0555555;1555555;-555555", "a1,b0");
         due("each by THING, then buyer: a to 1, b to 0", x.fewest(0) * 100 + x.fewest(1), 110);
     }
@@ -799,6 +828,20 @@ public final class EdgeTest extends Bench {
         x.person(0, 1, 9);
         x.person(5, 1, 0);
         x.person(4, 1, 0);
+        x = with("0555555;-555555;-555555", "ab,ac");
+        for (int p = 0; p < 6; p++) {
+            x.person(p, 1, 1);
+        }
+        due("what a GIFT would spare is nothing to it", x.best(1, -1), 0);
+        x.person(5, 1, 0);
+        due("to 5, the last of PEOPLE", x.best(1, 0), 5);
+        x = with("0555555;0555555;0555555;0555555;0555555;0555555;0555555;0555555", "h5,g4");
+        due("the last but one THING", x.best(1, 0), 64);
+        due("the last THING", x.best(1, 1), 75);
+        x = with("0555555", "a5");
+        x.person(0, 1, 9);
+        x.person(5, 1, 0);
+        x.person(4, 1, 0);
         due("to who pays nothing, though it ends not: 4 is ahead of 5", x.best(1, 0), 4);
     }
 
@@ -823,6 +866,15 @@ public final class EdgeTest extends Bench {
         due("4 and 5 lose but 3", x.match(), 45);
         x.person(1, 1, 97);
         due("0 and 1 lose but 2", x.match(), 1);
+        String[] pairs = {"01", "02", "05", "12", "15", "23", "45"};
+        for (String pair : pairs) {
+            x = with("0555555", pair);
+            x.person(pair.charAt(0) - '0', 1, 50);
+            x.person(pair.charAt(1) - '0', 1, 50);
+            due("most of all", x.match(), Integer.parseInt(pair));
+        }
+        x = with("0555555", "01,23,23,45");
+        due("a later one that is better than the first, but not than the best", x.match(), 23);
         x = with("-555555", "a1,a1");
         due("1 is worth as much to all: nothing, the first", x.match(), 1);
         x.person(4, 1, 1);
@@ -869,6 +921,14 @@ public final class EdgeTest extends Bench {
         due("who pays nothing", x.pays(0, 3, 0, 9, 16), 16);
         x.person(3, 0, 0);
         due("nothing in his PURSE", x.pays(0, 3, 2, 9, 16), -16);
+        x = with(EIGHT, "");
+        for (int t = 0; t < 8; t++) {
+            for (int p = 0; p < 6; p++) {
+                x.worth(t, p, 10 * t + p);
+            }
+        }
+        due("his WORTH of the last THING", x.pays(7, 5, 5, 1, 0), 16 * 70);
+        due("his WORTH of another", x.pays(1, 4, 0, 1, 0), 16 * 14);
     }
 
     private static void images() {
@@ -930,6 +990,12 @@ public final class EdgeTest extends Bench {
         due("eight of 24 items", x.deal(0, 1, 0, 8), 8);
         due("purse of 2: 50 - 1 + 2 - 3 + 4 - 5 + 6 - 7", x.purse(2), 46);
         due("purse of 1: 50 - 0 + 1 - 2 + 3 - 4 + 5 - 6 + 7", x.purse(1), 54);
+        x.sale(0, 0, 0);
+        due("one, though the next could be made", x.deal(0, 1, 0, 1), 1);
+        due("hand", x.hand(0), 1);
+        due("two", x.deal(0, 1, 3, 2), 2);
+        due("hand", x.hand(0), 1);
+        x.sale(0, 2, 0);
         due("seven from 3 on", x.deal(0, 1, 3, 7), 0);
         due("seven from 4 on", x.deal(0, 1, 4, 7), INDEX);
         due("eight from 1 on", x.deal(0, 1, 1, 8), INDEX);
