@@ -885,17 +885,22 @@ public final class EdgeTest extends Bench {
 
     private static void againstOthers() {
         promise = "29 AGAINST one who is neither seller nor buyer";
-        QuarrelSales x = with("0123456;1123456;-123456", "ab,a5,b5,c5,05,bc,ac");
         for (int law = 0; law < 4; law++) {
-            x.rule(0, law & 1);
             for (int t = 0; t < 3; t++) {
-                for (int to = 0; to < 6; to++) {
-                    for (int who = 0; who < 6; who++) {
-                        boolean isIn = who == to || who == x.hand(t);
-                        due("against(" + t + ", " + to + ", " + who + ")", x.against(t, to, who),
-                            isIn ? BAD_SO : x.hand(t) == to ? NOT_SO : 0);
-                    }
-                }
+                QuarrelSales x = with("0123456;1123456;-123456", "ab,a5,b5,c5,05,bc,ac");
+                x.rule(0, law & 1);
+                x.rule(1, law >> 1);
+                againstAll(x, t, x.hand(t));
+            }
+        }
+    }
+
+    private static void againstAll(QuarrelSales x, int thing, int seller) {
+        for (int to = 0; to < 6; to++) {
+            for (int who = 0; who < 6; who++) {
+                boolean isIn = who == to || who == seller;
+                due("against(" + thing + ", " + to + ", " + who + ")", x.against(thing, to, who),
+                    isIn ? BAD_SO : seller == to ? NOT_SO : 0);
             }
         }
     }
