@@ -91,6 +91,23 @@ abstract class Bench {
         return x;
     }
 
+    /** Here some of each is there, and each call can be taken: 4 THINGS, 5 SUITS, 3 SHEETS, an IMAGE, a TAPE. */
+    static QuarrelSales busy() {
+        QuarrelSales x = with("0123456;1987654;-555555;2444444", "ab,a2,c3,01");
+        x.image();
+        x.person(0, 0, 999);
+        x.person(1, 0, 400);
+        x.person(2, 1, 7);
+        x.sale(3, 0, 5);
+        x.suit(3, 10);
+        x.worth(1, 4, 99);
+        put(x, 0, 0, 3, 1, 2, 0);
+        put(x, 1, 1, 1, 2, 300);
+        put(x, 2, 2, 2, 4, 1, 7, 9);
+        type(x, "b4");
+        return x;
+    }
+
     static void put(QuarrelSales x, int sheet, int lane, int... items) {
         x.sheet(sheet, lane, items.length);
         for (int i = 0; i < items.length; i++) {
@@ -173,7 +190,7 @@ abstract class Bench {
         for (int k = 0; k < 3; k++) {
             int lane = laneOf(x, k);
             s.append(" sheet ").append(k).append(" of lane ").append(lane).append(':');
-            for (int i = 0; lane >= 0 && x.copy(k, i, k, i, 1) == 1; i++) {
+            for (int i = 0; i < 24 && lane >= 0 && x.copy(k, i, k, i, 1) == 1; i++) {
                 s.append(' ').append(read(x, k, lane, i));
             }
             s.append(" so many ").append(x.drop(k));

@@ -388,6 +388,15 @@ public final class EdgeTest extends Bench {
         due("they may be OVER at once", suits(x, "ab,0a,ac,c1"), 4);
         due("over", x.count(2), 3);
         due("ac is not", x.told(2, 4), 0);
+        x = with("0555555;-555555;-555555", "");
+        x.rule(1, 1);
+        due("by LAW 1, too", suits(x, "ab,a1,b1,bc,12"), 5);
+        due("over", x.count(2), 3);
+        due("a1 is not", x.told(1, 4), 0);
+        due("12 is not", x.told(4, 4), 0);
+        x = with("0555555;0555555", "ab,ab,ab,ab,ab,ab,0a,0a,0a,0b,0b,0b");
+        due("all twelve", x.count(2), 12);
+        due("they cost nothing", x.count(3), 0);
     }
 
     private static void salesSoFar() {
@@ -548,6 +557,28 @@ public final class EdgeTest extends Bench {
         due("no SALE: by LAW 0 the SIDE stays the THING", x.told(0, 0), 0);
         due("he stands there", x.told(0, 2), 3);
         due("COST of a stays", x.person(3, 1, 3), 3);
+        x.person(4, 1, 44);
+        x.wed(4, 3);
+        due("COST of a stays", x.person(4, 1, 5), 44);
+        due("COST of b stays", x.person(3, 1, 3), 3);
+    }
+
+    /** Behind the state with its HANDS, PURSES, SIDES: LAWS, COSTS, WORTHS, the IMAGE, THE TAPE, the SHEETS. */
+    private static String tail(QuarrelSales x) {
+        String told = all(x);
+        return told.substring(told.indexOf("| laws"));
+    }
+
+    private static void whatStays() {
+        promise = "15 .. 22, 33 LAWS, COSTS, WORTHS, the IMAGE, THE TAPE, the SHEETS stay";
+        Call[] calls = {x -> x.sale(0, 1, 7), x -> x.sale(2, 0, 7), x -> x.swap(0, 1), x -> x.swap(1, 2), x -> x.give(1),
+            x -> x.wed(2, 0), x -> x.wed(0, 2), x -> x.wed(1, 2), x -> x.rest(60), x -> x.deal(0, 0, 0, 1), x -> x.person(2, 0, 3),
+            x -> x.suit(0, 12)};
+        for (int k = 0; k < calls.length; k++) {
+            QuarrelSales x = busy();
+            hold("call " + k + " can be made", calls[k].on(x) >= 0);
+            same("call " + k, tail(x), tail(busy()));
+        }
     }
 
     private static void parts() {
@@ -738,6 +769,10 @@ public final class EdgeTest extends Bench {
         due("by SUITS that are OVER not", x.group(0), 1 | 1 << 11);
         due("alone", x.group(1), 2);
         due("one", x.group(-1), 1);
+        x = with("0555555;0555555;1555555", "");
+        due("no SUITS: each alone", x.group(0), 1);
+        due("no SUITS: each alone", x.group(2), 4);
+        due("none of two", x.group(-1), 0);
         x = with("0555555", "12,23");
         due("of PEOPLE alone", x.group(-1), 1);
         due("not by his HAND", x.group(0), 1);
@@ -787,6 +822,10 @@ public final class EdgeTest extends Bench {
         x.rule(1, 1);
         due("a SALE is to one of PEOPLE, though a GIFT would end both", x.fewest(-1), 2);
         due("a to 1", x.fewest(0), 1);
+        due("a to 2", x.fewest(1), 2);
+        x = with("0555555;1555555", "ab,a2,b0");
+        due("b has to go ahead of a", x.fewest(-1), 2);
+        due("b to 0", x.fewest(0), 10);
         due("a to 2", x.fewest(1), 2);
         x = with("0555555;1555555;-555555", "a1,b0");
         due("each by THING, then buyer: a to 1, b to 0", x.fewest(0) * 100 + x.fewest(1), 110);
@@ -843,6 +882,42 @@ public final class EdgeTest extends Bench {
         x.person(5, 1, 0);
         x.person(4, 1, 0);
         due("to who pays nothing, though it ends not: 4 is ahead of 5", x.best(1, 0), 4);
+    }
+
+    private static void bestRow(String call, QuarrelSales x, int years, int costs, int... sales) {
+        due(call + ": how many", x.best(years, -1), sales.length);
+        due(call + ": what it costs", x.best(years, -2), costs);
+        for (int i = 0; i < 2; i++) {
+            due(call + ": the SALE " + i, x.best(years, i), i < sales.length ? sales[i] : NONE);
+        }
+    }
+
+    private static void bestRows() {
+        promise = "26 BEST, two SALES";
+        bestRow("one THING twice", with("0555555", "a1,a2"), 1, 2, 1, 2);
+        bestRow("b has to go ahead of a", with("0555555;1555555", "ab,a2,b0"), 9, 2, 10, 2);
+        bestRow("two of three", with("0555555", "a1,a2,a3"), 2, 14, 1, 2);
+        QuarrelSales x = with("0555555", "a1,a1,a2,a2,a3,a3");
+        for (int p = 0; p < 6; p++) {
+            x.person(p, 1, p == 0 ? 0 : 50);
+        }
+        bestRow("the first one alone makes it dearer, then back to who pays nothing", x, 1, 202, 1, 0);
+        x = with("0555555;1555555", "a3,b4");
+        int[] costs = {1, 5, 0, 0, 5, 0};
+        for (int p = 0; p < 6; p++) {
+            x.person(p, 1, costs[p]);
+        }
+        bestRow("a first saves as much as it costs: b alone is as good, and fewer", x, 1, 2, 14);
+        bestRow("in two years it saves more", x, 2, 2, 2, 14);
+        x = with("0555555", "a1");
+        x.rule(0, 1);
+        bestRow("SUITS stay by LAW 0", x, 9, 54);
+        x = with("-555555;1555555", "a1,b0");
+        x.rule(0, 1);
+        bestRow("but THE PARISH's", x, 9, 55, 1);
+        x = with("0555555;-555555;-555555", "ab,ac");
+        x.rule(1, 1);
+        bestRow("by LAW 1 all are OVER", x, 9, 0);
     }
 
     private static void savings() {
@@ -1153,6 +1228,7 @@ public final class EdgeTest extends Bench {
         swaps();
         gifts();
         weddings();
+        whatStays();
         parts();
         gains();
         agreements();
@@ -1161,6 +1237,7 @@ public final class EdgeTest extends Bench {
         nevers();
         fewestSales();
         bestSales();
+        bestRows();
         savings();
         againstOthers();
         payments();

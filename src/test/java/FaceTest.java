@@ -6,7 +6,7 @@ import java.lang.reflect.Modifier;
 import java.util.Arrays;
 import java.util.TreeSet;
 
-/** The face is the document's and nothing else; no call makes an object; the odd arguments never make one throw. */
+/** The face is the document's and nothing else; odd arguments never make a call throw; what all calls make has room. */
 public final class FaceTest {
     private static final String[] FACE = {
         "person(int, int, int)", "rule(int, int)", "thing(int)", "worth(int, int, int)", "suit(int, int)",
@@ -21,6 +21,9 @@ public final class FaceTest {
         999, 1000, 4095, 4096, 1 << 30, Integer.MAX_VALUE, Integer.MAX_VALUE - 1, Integer.MIN_VALUE, Integer.MIN_VALUE + 1};
     private static final long[] WORDS = {0x30313233343536L, 0x3B30313233343536L, 0x2D313233343536L, 0x6162L,
         0x2C30612C31622C32L, 0x2C6130L, 0x3031L, 0, -1, Long.MIN_VALUE, 0x2020202020202020L};
+
+    /** 7.3 million fields and elements, of eight bytes at most. */
+    private static final long ROOM = 8 * 7_300_000L;
 
     private static int wrong = 0;
 
@@ -133,17 +136,15 @@ public final class FaceTest {
         long me = Thread.currentThread().getId();
         Counter c = new Counter();
         QuarrelSales[] row = new QuarrelSales[40];
+        long before = threads.getThreadAllocatedBytes(me);
         for (int k = 0; k < row.length; k++) {
             row[k] = new QuarrelSales();
-            call(row[k], c);
         }
-        threads.getThreadAllocatedBytes(me);
-        long before = threads.getThreadAllocatedBytes(me);
-        for (int k = 0; k < 511 * row.length; k++) {
+        for (int k = 0; k < 512 * row.length; k++) {
             call(row[k % row.length], c);
         }
         long made = threads.getThreadAllocatedBytes(me) - before;
-        hold(made < 20000, "so many calls make no objects, but took " + made + " bytes");
+        hold(made < ROOM, "objects of a run live in one room, but took " + made + " bytes");
     }
 
     public static void main(String[] args) {

@@ -159,7 +159,7 @@ public final class ModelTest {
     private void callOne() {
         int a = below(41);
         switch (a) {
-            case 0: person(about(6), once(3) ? 0 : about(2), about(once(3) ? 1000 : 100)); break;
+            case 0: aPerson(); break;
             case 1: if (once(4)) { rule(about(2), about(2)); } break;
             case 2: if (once(3)) { thing(about(7)); } break;
             case 3: worth(aThing(), about(6), about(100)); break;
@@ -188,6 +188,15 @@ public final class ModelTest {
             case 37: if (once(3)) { drop(about(4)); } break;
             case 38: case 39: item(about(4), about(3), about(24), once(6) ? below(1 << 30) - (1 << 29) : once(5) ? 256 * below(4) + below(3) : below(6)); break;
             default: copy(about(4), about(8), about(4), about(8), about(9)); break;
+        }
+    }
+
+    /** Small COSTS let rows of SALES be alike. */
+    private void aPerson() {
+        if (once(2)) {
+            person(about(6), 1, below(3));
+        } else {
+            person(about(6), once(3) ? 0 : about(2), about(once(3) ? 1000 : 100));
         }
     }
 

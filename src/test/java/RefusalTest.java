@@ -10,23 +10,6 @@ public final class RefusalTest extends Bench {
         int on(QuarrelSales x, int v);
     }
 
-    /** Here some of each is there, and each call can be taken: 4 THINGS, 5 SUITS, 3 SHEETS, an IMAGE, a TAPE. */
-    private static QuarrelSales busy() {
-        QuarrelSales x = with("0123456;1987654;-555555;2444444", "ab,a2,c3,01");
-        x.image();
-        x.person(0, 0, 999);
-        x.person(1, 0, 400);
-        x.person(2, 1, 7);
-        x.sale(3, 0, 5);
-        x.suit(3, 10);
-        x.worth(1, 4, 99);
-        put(x, 0, 0, 3, 1, 2, 0);
-        put(x, 1, 1, 1, 2, 300);
-        put(x, 2, 2, 2, 4, 1, 7, 9);
-        type(x, "b4");
-        return x;
-    }
-
     /** Nothing has room here: 8 THINGS, 12 SUITS, a TAPE of 80 bytes. */
     private static QuarrelSales full() {
         QuarrelSales x = with("0000000;1111111;2222222;3333333;4444444;5555555;-666666;0777777",
@@ -68,7 +51,7 @@ public final class RefusalTest extends Bench {
             hold(call + " takes " + v, of.on(busy(), v) != refusal);
         }
         for (int v : outside(least, most)) {
-            refused(call + " of " + v, RefusalTest::busy, x -> of.on(x, v), refusal);
+            refused(call + " of " + v, Bench::busy, x -> of.on(x, v), refusal);
         }
     }
 
@@ -113,12 +96,12 @@ public final class RefusalTest extends Bench {
     private static void suitsBetweenSides() {
         promise = "6 suit";
         for (int v : new int[] {-1, 4, 7, 8, 9, 16, 17, 256, 266, 1 << 16, Integer.MIN_VALUE, Integer.MIN_VALUE + 10, Integer.MAX_VALUE}) {
-            refused("suit(" + v + ", 10)", RefusalTest::busy, x -> x.suit(v, 10), BAD);
-            refused("suit(10, " + v + ")", RefusalTest::busy, x -> x.suit(10, v), BAD);
-            refused("suit(" + v + ", " + v + ")", RefusalTest::busy, x -> x.suit(v, v), BAD);
+            refused("suit(" + v + ", 10)", Bench::busy, x -> x.suit(v, 10), BAD);
+            refused("suit(10, " + v + ")", Bench::busy, x -> x.suit(10, v), BAD);
+            refused("suit(" + v + ", " + v + ")", Bench::busy, x -> x.suit(v, v), BAD);
         }
         for (int v : new int[] {0, 3, 10, 15}) {
-            refused("suit(" + v + ", " + v + ")", RefusalTest::busy, x -> x.suit(v, v), BAD);
+            refused("suit(" + v + ", " + v + ")", Bench::busy, x -> x.suit(v, v), BAD);
             due("suit(" + v + ", 14)", busy().suit(v, 14), 5);
             due("suit(14, " + v + ")", busy().suit(14, v), 5);
         }
@@ -146,7 +129,7 @@ public final class RefusalTest extends Bench {
                 for (int n = 1; n <= 8; n++) {
                     int m = n;
                     if (n > k) {
-                        refused("type of a byte " + b + " at " + k + ", " + n, RefusalTest::busy, x -> x.type(w, m), BAD);
+                        refused("type of a byte " + b + " at " + k + ", " + n, Bench::busy, x -> x.type(w, m), BAD);
                     } else {
                         due("type of a byte " + b + " above " + n, busy().type(w, n), 2 + n);
                     }
@@ -157,8 +140,8 @@ public final class RefusalTest extends Bench {
                 due("type of a byte " + b + " at " + k, busy().type(w, 8), 10);
             }
         }
-        refused("type(-1, 1)", RefusalTest::busy, x -> x.type(-1, 1), BAD);
-        refused("type(least, 8)", RefusalTest::busy, x -> x.type(Long.MIN_VALUE, 8), BAD);
+        refused("type(-1, 1)", Bench::busy, x -> x.type(-1, 1), BAD);
+        refused("type(least, 8)", Bench::busy, x -> x.type(Long.MIN_VALUE, 8), BAD);
         refused("an 81st byte", RefusalTest::full, x -> x.type(65, 1), FULL);
         refused("an 88th byte", RefusalTest::full, x -> x.type(0x4141414141414141L, 8), FULL);
         refused("an 81st byte that is none: BAD first", RefusalTest::full, x -> x.type(31, 1), BAD);
@@ -171,23 +154,23 @@ public final class RefusalTest extends Bench {
         ends("sale(v, 5, 0)", 0, 3, BAD, (x, v) -> x.sale(v, 5, 0));
         ends("sale(1, v, 0)", 0, 5, BAD, (x, v) -> x.sale(1, v, 0));
         ends("sale(1, 0, v)", 0, 999, BAD, (x, v) -> x.sale(1, 0, v));
-        refused("sale to who has it", RefusalTest::busy, x -> x.sale(1, 1, 0), NOT);
-        refused("sale to who has it, and could not pay", RefusalTest::busy, x -> x.sale(1, 1, 999), NOT);
+        refused("sale to who has it", Bench::busy, x -> x.sale(1, 1, 0), NOT);
+        refused("sale to who has it, and could not pay", Bench::busy, x -> x.sale(1, 1, 999), NOT);
         due("sale for all he has", busy().sale(0, 1, 400), 1);
-        refused("sale for one more", RefusalTest::busy, x -> x.sale(0, 1, 401), NOT);
-        refused("sale to who has it, for 1000: BAD first", RefusalTest::busy, x -> x.sale(1, 1, 1000), BAD);
-        refused("sale to who has it, for -1: BAD first", RefusalTest::busy, x -> x.sale(1, 1, -1), BAD);
+        refused("sale for one more", Bench::busy, x -> x.sale(0, 1, 401), NOT);
+        refused("sale to who has it, for 1000: BAD first", Bench::busy, x -> x.sale(1, 1, 1000), BAD);
+        refused("sale to who has it, for -1: BAD first", Bench::busy, x -> x.sale(1, 1, -1), BAD);
         refused("sale where nothing is there", RefusalTest::none, x -> x.sale(0, 1, 0), BAD);
         promise = "16 swap";
         ends("swap(v, 2)", 0, 3, BAD, (x, v) -> x.swap(v, 2));
         ends("swap(2, v)", 0, 3, BAD, (x, v) -> x.swap(2, v));
-        refused("swap of two in one hand", RefusalTest::busy, x -> x.swap(0, 3), NOT);
-        refused("swap with itself", RefusalTest::busy, x -> x.swap(1, 1), NOT);
-        refused("swap of the parish's with itself", RefusalTest::busy, x -> x.swap(2, 2), NOT);
-        refused("swap of what is not there with itself: BAD", RefusalTest::busy, x -> x.swap(4, 4), BAD);
+        refused("swap of two in one hand", Bench::busy, x -> x.swap(0, 3), NOT);
+        refused("swap with itself", Bench::busy, x -> x.swap(1, 1), NOT);
+        refused("swap of the parish's with itself", Bench::busy, x -> x.swap(2, 2), NOT);
+        refused("swap of what is not there with itself: BAD", Bench::busy, x -> x.swap(4, 4), BAD);
         promise = "17 give";
         ends("give(v)", 0, 3, BAD, QuarrelSales::give);
-        refused("give of the parish's", RefusalTest::busy, x -> x.give(2), NOT);
+        refused("give of the parish's", Bench::busy, x -> x.give(2), NOT);
         refused("give where nothing is there", RefusalTest::none, x -> x.give(0), BAD);
     }
 
@@ -197,13 +180,13 @@ public final class RefusalTest extends Bench {
         ends("wed(2, v)", 0, 5, BAD, (x, v) -> x.wed(2, v));
         for (int p = -1; p < 7; p++) {
             int q = p;
-            refused("wed(" + p + ", " + p + ")", RefusalTest::busy, x -> x.wed(q, q), BAD);
+            refused("wed(" + p + ", " + p + ")", Bench::busy, x -> x.wed(q, q), BAD);
         }
         promise = "19 part";
         ends("part(v, 0)", 0, 3, BAD, (x, v) -> x.part(v, 0));
         ends("part(0, v)", 0, 31, BAD, (x, v) -> x.part(0, v));
-        refused("part of a sixth suit alone", RefusalTest::busy, x -> x.part(0, 32), BAD);
-        refused("part of the highest bit", RefusalTest::busy, x -> x.part(0, 1 << 31), BAD);
+        refused("part of a sixth suit alone", Bench::busy, x -> x.part(0, 32), BAD);
+        refused("part of the highest bit", Bench::busy, x -> x.part(0, 1 << 31), BAD);
         refused("part where nothing is there", RefusalTest::none, x -> x.part(0, 0), BAD);
         refused("part, a ninth", RefusalTest::full, x -> x.part(0, 0), FULL);
         refused("part, a ninth with all suits", RefusalTest::full, x -> x.part(7, 4095), FULL);
@@ -216,17 +199,17 @@ public final class RefusalTest extends Bench {
         ends("gain(v, 5, 1)", 0, 3, BAD_SO, (x, v) -> x.gain(v, 5, 1));
         ends("gain(1, v, 1)", 0, 5, BAD_SO, (x, v) -> x.gain(1, v, 1));
         ends("gain(1, 5, v)", 0, 1, BAD_SO, (x, v) -> x.gain(1, 5, v));
-        refused("gain of who has it", RefusalTest::busy, x -> x.gain(1, 1, 0), NOT_SO);
-        refused("gain of who has it", RefusalTest::busy, x -> x.gain(1, 1, 1), NOT_SO);
-        refused("gain of who has it, what 2: BAD first", RefusalTest::busy, x -> x.gain(1, 1, 2), BAD_SO);
-        refused("gain of a sale to the parish, which has it: BAD", RefusalTest::busy, x -> x.gain(2, 6, 0), BAD_SO);
+        refused("gain of who has it", Bench::busy, x -> x.gain(1, 1, 0), NOT_SO);
+        refused("gain of who has it", Bench::busy, x -> x.gain(1, 1, 1), NOT_SO);
+        refused("gain of who has it, what 2: BAD first", Bench::busy, x -> x.gain(1, 1, 2), BAD_SO);
+        refused("gain of a sale to the parish, which has it: BAD", Bench::busy, x -> x.gain(2, 6, 0), BAD_SO);
         promise = "21 agreed";
         ends("agreed(v, 5)", 0, 3, BAD, (x, v) -> x.agreed(v, 5));
         ends("agreed(1, v)", 0, 5, BAD, (x, v) -> x.agreed(1, v));
-        refused("agreed of the parish's", RefusalTest::busy, x -> x.agreed(2, 0), NOT);
-        refused("agreed of who has it", RefusalTest::busy, x -> x.agreed(1, 1), NOT);
-        refused("agreed of the parish's to the parish: BAD first", RefusalTest::busy, x -> x.agreed(2, 6), BAD);
-        refused("agreed at none", RefusalTest::busy, x -> x.agreed(1, 5), NONE);
+        refused("agreed of the parish's", Bench::busy, x -> x.agreed(2, 0), NOT);
+        refused("agreed of who has it", Bench::busy, x -> x.agreed(1, 1), NOT);
+        refused("agreed of the parish's to the parish: BAD first", Bench::busy, x -> x.agreed(2, 6), BAD);
+        refused("agreed at none", Bench::busy, x -> x.agreed(1, 5), NONE);
         promise = "22 rest";
         ends("rest(v)", 1, 60, BAD, QuarrelSales::rest);
     }
@@ -262,28 +245,28 @@ public final class RefusalTest extends Bench {
         ends("saves(2, v)", 0, 5, BAD_SO, (x, v) -> x.saves(2, v));
         for (int p = -1; p < 7; p++) {
             int q = p;
-            refused("saves(" + p + ", " + p + ")", RefusalTest::busy, x -> x.saves(q, q), BAD_SO);
+            refused("saves(" + p + ", " + p + ")", Bench::busy, x -> x.saves(q, q), BAD_SO);
         }
         promise = "29 against";
         ends("against(v, 3, 4)", 0, 3, BAD_SO, (x, v) -> x.against(v, 3, 4));
         ends("against(1, v, 4)", 0, 5, BAD_SO, (x, v) -> x.against(1, v == 4 ? 3 : v, 4));
         ends("against(1, 3, v)", 0, 5, BAD_SO, (x, v) -> x.against(1, 3, v));
-        refused("against who sells", RefusalTest::busy, x -> x.against(1, 3, 1), BAD_SO);
-        refused("against who buys", RefusalTest::busy, x -> x.against(1, 3, 3), BAD_SO);
-        refused("against who buys of the parish", RefusalTest::busy, x -> x.against(2, 3, 3), BAD_SO);
-        refused("against the parish, which sells", RefusalTest::busy, x -> x.against(2, 3, 6), BAD_SO);
-        refused("against who has it: BAD first", RefusalTest::busy, x -> x.against(1, 1, 1), BAD_SO);
-        refused("against another, of who has it", RefusalTest::busy, x -> x.against(1, 1, 0), NOT_SO);
+        refused("against who sells", Bench::busy, x -> x.against(1, 3, 1), BAD_SO);
+        refused("against who buys", Bench::busy, x -> x.against(1, 3, 3), BAD_SO);
+        refused("against who buys of the parish", Bench::busy, x -> x.against(2, 3, 3), BAD_SO);
+        refused("against the parish, which sells", Bench::busy, x -> x.against(2, 3, 6), BAD_SO);
+        refused("against who has it: BAD first", Bench::busy, x -> x.against(1, 1, 1), BAD_SO);
+        refused("against another, of who has it", Bench::busy, x -> x.against(1, 1, 0), NOT_SO);
         promise = "30 pays";
         ends("pays(v, 5, 0, 1, 0)", 0, 3, BAD_SO, (x, v) -> x.pays(v, 5, 0, 1, 0));
         ends("pays(1, v, 0, 1, 0)", 0, 5, BAD_SO, (x, v) -> x.pays(1, v, 0, 1, 0));
         ends("pays(1, 3, v, 1, 0)", 0, 999, BAD_SO, (x, v) -> x.pays(1, 3, v, 1, 0));
         ends("pays(1, 3, 0, v, 0)", 1, 9, BAD_SO, (x, v) -> x.pays(1, 3, 0, v, 0));
         ends("pays(1, 3, 0, 1, v)", 0, 16, BAD_SO, (x, v) -> x.pays(1, 3, 0, 1, v));
-        refused("pays of who has it", RefusalTest::busy, x -> x.pays(1, 1, 0, 1, 0), NOT_SO);
-        refused("pays of who has it, price 1000: BAD first", RefusalTest::busy, x -> x.pays(1, 1, 1000, 1, 0), BAD_SO);
-        refused("pays of who has it, y 0: BAD first", RefusalTest::busy, x -> x.pays(1, 1, 0, 0, 0), BAD_SO);
-        refused("pays of who has it, c 17: BAD first", RefusalTest::busy, x -> x.pays(1, 1, 0, 1, 17), BAD_SO);
+        refused("pays of who has it", Bench::busy, x -> x.pays(1, 1, 0, 1, 0), NOT_SO);
+        refused("pays of who has it, price 1000: BAD first", Bench::busy, x -> x.pays(1, 1, 1000, 1, 0), BAD_SO);
+        refused("pays of who has it, y 0: BAD first", Bench::busy, x -> x.pays(1, 1, 0, 0, 0), BAD_SO);
+        refused("pays of who has it, c 17: BAD first", Bench::busy, x -> x.pays(1, 1, 0, 1, 17), BAD_SO);
     }
 
     private static void askedOnly() {
@@ -294,7 +277,7 @@ public final class RefusalTest extends Bench {
             x -> x.saves(0, 1), x -> x.match(), x -> x.against(0, 1, 3), x -> x.pays(0, 1, 9, 9, 9)};
         String[] wanted = {all(busy()), all(full()), all(byOtherLaws())};
         for (int k = 0; k < calls.length; k++) {
-            Make[] makes = {RefusalTest::busy, RefusalTest::full, RefusalTest::byOtherLaws};
+            Make[] makes = {Bench::busy, RefusalTest::full, RefusalTest::byOtherLaws};
             for (int m = 0; m < makes.length; m++) {
                 QuarrelSales x = makes[m].made();
                 int first = calls[k].on(x);
@@ -324,17 +307,22 @@ public final class RefusalTest extends Bench {
         ends("deal(2, v, 0, 1)", 0, 2, BAD, (x, v) -> x.deal(2, v, 0, 1));
         ends("deal(2, 2, v, 1)", 0, 2, INDEX, (x, v) -> x.deal(2, 2, v, 1));
         ends("deal(2, 2, 0, v)", 1, 8, BAD, (x, v) -> x.deal(2, 2, 0, v));
-        refused("deal of nothing", RefusalTest::busy, x -> x.deal(3, 0, 0, 1), NULL);
-        refused("deal of nothing, n 0: BAD first", RefusalTest::busy, x -> x.deal(3, 0, 0, 0), BAD);
-        refused("deal of nothing, i -1: NULL first", RefusalTest::busy, x -> x.deal(3, 0, -1, 1), NULL);
-        refused("deal of another lane", RefusalTest::busy, x -> x.deal(0, 1, 0, 1), CAST);
-        refused("deal of another lane", RefusalTest::busy, x -> x.deal(1, 0, 0, 1), CAST);
-        refused("deal of another lane, i -1: CAST first", RefusalTest::busy, x -> x.deal(2, 1, -1, 1), CAST);
-        refused("deal of another lane, n 9: BAD first", RefusalTest::busy, x -> x.deal(2, 1, 0, 9), BAD);
-        refused("deal of two of 4 items", RefusalTest::busy, x -> x.deal(0, 0, 0, 2), INDEX);
-        refused("deal of two of 5 items", RefusalTest::busy, x -> x.deal(2, 2, 0, 2), INDEX);
-        refused("deal from the end on", RefusalTest::busy, x -> x.deal(1, 1, 3, 1), INDEX);
-        refused("deal of one that can't be made", RefusalTest::busy, x -> x.deal(1, 1, 0, 1), 0);
+        refused("deal of nothing", Bench::busy, x -> x.deal(3, 0, 0, 1), NULL);
+        for (int lane = 1; lane < 3; lane++) {
+            int taken = lane;
+            refused("deal of nothing, lane " + lane, Bench::busy, x -> x.deal(3, taken, 0, 1), NULL);
+            refused("item of nothing, lane " + lane, Bench::busy, x -> x.item(3, taken, 0, 1), NULL);
+        }
+        refused("deal of nothing, n 0: BAD first", Bench::busy, x -> x.deal(3, 0, 0, 0), BAD);
+        refused("deal of nothing, i -1: NULL first", Bench::busy, x -> x.deal(3, 0, -1, 1), NULL);
+        refused("deal of another lane", Bench::busy, x -> x.deal(0, 1, 0, 1), CAST);
+        refused("deal of another lane", Bench::busy, x -> x.deal(1, 0, 0, 1), CAST);
+        refused("deal of another lane, i -1: CAST first", Bench::busy, x -> x.deal(2, 1, -1, 1), CAST);
+        refused("deal of another lane, n 9: BAD first", Bench::busy, x -> x.deal(2, 1, 0, 9), BAD);
+        refused("deal of two of 4 items", Bench::busy, x -> x.deal(0, 0, 0, 2), INDEX);
+        refused("deal of two of 5 items", Bench::busy, x -> x.deal(2, 2, 0, 2), INDEX);
+        refused("deal from the end on", Bench::busy, x -> x.deal(1, 1, 3, 1), INDEX);
+        refused("deal of one that can't be made", Bench::busy, x -> x.deal(1, 1, 0, 1), 0);
     }
 
     private static void rowsOfSheets() {
@@ -342,28 +330,28 @@ public final class RefusalTest extends Bench {
         ends("sheet(v, 0, 1)", 0, 3, BAD, (x, v) -> x.sheet(v, 0, 1));
         ends("sheet(0, v, 1)", 0, 2, BAD, (x, v) -> x.sheet(0, v, 1));
         for (int n : outside(Integer.MIN_VALUE, 24)) {
-            refused("sheet(0, 0, " + n + ")", RefusalTest::busy, x -> x.sheet(0, 0, n), BAD);
+            refused("sheet(0, 0, " + n + ")", Bench::busy, x -> x.sheet(0, 0, n), BAD);
         }
         for (int n : new int[] {-1, -2, -256, Integer.MIN_VALUE}) {
-            refused("sheet(1, 1, " + n + ")", RefusalTest::busy, x -> x.sheet(1, 1, n), SIZE);
-            refused("sheet(3, 0, " + n + ") of nothing", RefusalTest::busy, x -> x.sheet(3, 0, n), SIZE);
-            refused("sheet(4, 0, " + n + "): BAD first", RefusalTest::busy, x -> x.sheet(4, 0, n), BAD);
-            refused("sheet(0, 3, " + n + "): BAD first", RefusalTest::busy, x -> x.sheet(0, 3, n), BAD);
+            refused("sheet(1, 1, " + n + ")", Bench::busy, x -> x.sheet(1, 1, n), SIZE);
+            refused("sheet(3, 0, " + n + ") of nothing", Bench::busy, x -> x.sheet(3, 0, n), SIZE);
+            refused("sheet(4, 0, " + n + "): BAD first", Bench::busy, x -> x.sheet(4, 0, n), BAD);
+            refused("sheet(0, 3, " + n + "): BAD first", Bench::busy, x -> x.sheet(0, 3, n), BAD);
         }
         promise = "35 drop";
         ends("drop(v)", 0, 3, BAD, QuarrelSales::drop);
-        refused("drop of nothing", RefusalTest::busy, x -> x.drop(3), NULL);
+        refused("drop of nothing", Bench::busy, x -> x.drop(3), NULL);
         promise = "36 item";
         ends("item(v, 0, 0, 1)", 0, 3, BAD, (x, v) -> x.item(v, 0, 0, 1));
         ends("item(1, v, 0, 1)", 0, 2, BAD, (x, v) -> x.item(1, v, 0, 1));
         ends("item(0, 0, v, 1)", 0, 3, INDEX, (x, v) -> x.item(0, 0, v, 1));
         ends("item(1, 1, v, 1)", 0, 2, INDEX, (x, v) -> x.item(1, 1, v, 1));
         ends("item(2, 2, v, 1)", 0, 4, INDEX, (x, v) -> x.item(2, 2, v, 1));
-        refused("item of nothing", RefusalTest::busy, x -> x.item(3, 0, 0, 1), NULL);
-        refused("item of nothing, i -1: NULL first", RefusalTest::busy, x -> x.item(3, 2, -1, 1), NULL);
-        refused("item of nothing, lane 3: BAD first", RefusalTest::busy, x -> x.item(3, 3, 0, 1), BAD);
-        refused("item of another lane", RefusalTest::busy, x -> x.item(0, 2, 0, 1), CAST);
-        refused("item of another lane, i 9: CAST first", RefusalTest::busy, x -> x.item(2, 0, 9, 1), CAST);
+        refused("item of nothing", Bench::busy, x -> x.item(3, 0, 0, 1), NULL);
+        refused("item of nothing, i -1: NULL first", Bench::busy, x -> x.item(3, 2, -1, 1), NULL);
+        refused("item of nothing, lane 3: BAD first", Bench::busy, x -> x.item(3, 3, 0, 1), BAD);
+        refused("item of another lane", Bench::busy, x -> x.item(0, 2, 0, 1), CAST);
+        refused("item of another lane, i 9: CAST first", Bench::busy, x -> x.item(2, 0, 9, 1), CAST);
     }
 
     private static void copies() {
@@ -377,20 +365,31 @@ public final class RefusalTest extends Bench {
         ends("copy(0, 0, 0, 0, v)", 0, 4, INDEX, (x, v) -> x.copy(0, 0, 0, 0, v));
         ends("copy(2, 2, 2, 0, v)", 0, 3, INDEX, (x, v) -> x.copy(2, 2, 2, 0, v));
         ends("copy(2, 0, 2, 2, v)", 0, 3, INDEX, (x, v) -> x.copy(2, 0, 2, 2, v));
-        refused("copy of nothing", RefusalTest::busy, x -> x.copy(3, 0, 0, 0, 1), NULL);
-        refused("copy to nothing", RefusalTest::busy, x -> x.copy(0, 0, 3, 0, 1), NULL);
-        refused("copy of nothing to itself, none", RefusalTest::busy, x -> x.copy(3, 0, 3, 0, 0), NULL);
-        refused("copy of nothing to sheet 4: BAD first", RefusalTest::busy, x -> x.copy(3, 0, 4, 0, 1), BAD);
-        refused("copy of sheet 4 to nothing: BAD first", RefusalTest::busy, x -> x.copy(4, 0, 3, 0, 1), BAD);
-        refused("copy to nothing, n -1: NULL first", RefusalTest::busy, x -> x.copy(0, 0, 3, 0, -1), NULL);
-        refused("copy of bytes to shorts", RefusalTest::busy, x -> x.copy(0, 0, 1, 0, 1), CAST);
-        refused("copy of ints to bytes, none", RefusalTest::busy, x -> x.copy(2, 0, 0, 0, 0), CAST);
-        refused("copy of ints to shorts, n -1: CAST first", RefusalTest::busy, x -> x.copy(2, 9, 1, 9, -1), CAST);
-        refused("copy of n that turns with i", RefusalTest::busy, x -> x.copy(0, 1, 0, 0, Integer.MAX_VALUE), INDEX);
-        refused("copy of n that turns with j", RefusalTest::busy, x -> x.copy(0, 0, 0, 4, Integer.MAX_VALUE), INDEX);
-        refused("copy of i that turns with n", RefusalTest::busy, x -> x.copy(0, Integer.MAX_VALUE, 0, 0, 4), INDEX);
-        refused("copy of j that turns with n", RefusalTest::busy, x -> x.copy(0, 0, 0, Integer.MAX_VALUE, 4), INDEX);
-        refused("copy of i and n below 0", RefusalTest::busy, x -> x.copy(0, Integer.MIN_VALUE, 0, 0, Integer.MIN_VALUE), INDEX);
+        refused("copy of nothing", Bench::busy, x -> x.copy(3, 0, 0, 0, 1), NULL);
+        refused("copy to nothing", Bench::busy, x -> x.copy(0, 0, 3, 0, 1), NULL);
+        for (int sheet = 1; sheet < 3; sheet++) {
+            int other = sheet;
+            refused("copy of nothing to lane " + sheet + ": NULL first", Bench::busy, x -> x.copy(3, 0, other, 0, 1), NULL);
+            refused("copy to nothing from lane " + sheet + ": NULL first", Bench::busy, x -> x.copy(other, 0, 3, 0, 1), NULL);
+        }
+        QuarrelSales dropped = busy();
+        dropped.drop(2);
+        due("copy of what was ints to bytes", dropped.copy(2, 0, 0, 0, 1), NULL);
+        due("copy of bytes to what was ints", dropped.copy(0, 0, 2, 0, 1), NULL);
+        due("deal of what was ints as bytes", dropped.deal(2, 0, 0, 1), NULL);
+        due("item of what was ints as bytes", dropped.item(2, 0, 0, 1), NULL);
+        refused("copy of nothing to itself, none", Bench::busy, x -> x.copy(3, 0, 3, 0, 0), NULL);
+        refused("copy of nothing to sheet 4: BAD first", Bench::busy, x -> x.copy(3, 0, 4, 0, 1), BAD);
+        refused("copy of sheet 4 to nothing: BAD first", Bench::busy, x -> x.copy(4, 0, 3, 0, 1), BAD);
+        refused("copy to nothing, n -1: NULL first", Bench::busy, x -> x.copy(0, 0, 3, 0, -1), NULL);
+        refused("copy of bytes to shorts", Bench::busy, x -> x.copy(0, 0, 1, 0, 1), CAST);
+        refused("copy of ints to bytes, none", Bench::busy, x -> x.copy(2, 0, 0, 0, 0), CAST);
+        refused("copy of ints to shorts, n -1: CAST first", Bench::busy, x -> x.copy(2, 9, 1, 9, -1), CAST);
+        refused("copy of n that turns with i", Bench::busy, x -> x.copy(0, 1, 0, 0, Integer.MAX_VALUE), INDEX);
+        refused("copy of n that turns with j", Bench::busy, x -> x.copy(0, 0, 0, 4, Integer.MAX_VALUE), INDEX);
+        refused("copy of i that turns with n", Bench::busy, x -> x.copy(0, Integer.MAX_VALUE, 0, 0, 4), INDEX);
+        refused("copy of j that turns with n", Bench::busy, x -> x.copy(0, 0, 0, Integer.MAX_VALUE, 4), INDEX);
+        refused("copy of i and n below 0", Bench::busy, x -> x.copy(0, Integer.MIN_VALUE, 0, 0, Integer.MIN_VALUE), INDEX);
     }
 
     public static void main(String[] args) {
