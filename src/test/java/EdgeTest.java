@@ -274,6 +274,7 @@ public final class EdgeTest extends Bench {
         }
         due("empty", faultOf(""), -20);
         due("80 blanks", faultOf(" ".repeat(80)), -100);
+        due("79 blanks", faultOf(" ".repeat(79) + "!"), -99);
         due("one byte too many", faultOf(two + "0"), -35);
         for (int n = 1; n <= 8; n++) {
             due(n + " THINGS", faultOf(EIGHT.substring(0, 8 * n - 1)), n);
@@ -351,6 +352,7 @@ public final class EdgeTest extends Bench {
         }
         due("empty", suitsOf(""), -20);
         due("80 blanks", suitsOf(" ".repeat(80)), -100);
+        due("79 blanks", suitsOf(" ".repeat(79) + "!"), -99);
         due("alike behind blanks", suitsOf("a  a"), -23);
         due("one byte too many", suitsOf(three + "a"), -28);
         for (int n = 1; n <= 12; n++) {
@@ -803,6 +805,7 @@ public final class EdgeTest extends Bench {
                 due("of " + suits[k] + " the SALE " + i, x.fewest(i), i < sales[k].length ? sales[k][i] : NONE);
             }
         }
+        due("twelve NEVER ones", with("0555555", TWELVE).fewest(-1), 0);
         QuarrelSales x = with("0555555;1555555", "ab,01,12");
         due("but NEVER ones", x.fewest(-1), 1);
         x.rule(0, 1);
@@ -994,6 +997,7 @@ public final class EdgeTest extends Bench {
         due("of all sixteenths", x.pays(0, 5, 99, 1, 16), 16 * 99 * 12 - 16 * 99);
         x.rule(0, 1);
         due("SUITS stay", x.pays(0, 5, 98, 9, 0), 16);
+        due("a new SUIT may come", x.pays(0, 5, 98, 9, 16), 16 - 16 * 9 * 99);
         x = with("-111111", "a1");
         x.person(3, 1, 2);
         due("of THE PARISH", x.pays(0, 3, 0, 1, 0), 16 - 16 * 2);
@@ -1048,6 +1052,29 @@ public final class EdgeTest extends Bench {
         x.thing(0);
         due("an IMAGE of nothing", x.restore(), 1);
         due("nothing there", x.count(0), 0);
+        x = filled();
+        x.image();
+        x.rule(0, 0);
+        x.rule(1, 0);
+        village(x, "0123456");
+        due("an IMAGE of all that has room", x.restore(), 1);
+        QuarrelSales other = filled();
+        other.image();
+        same("all is as it was then", all(x), all(other));
+    }
+
+    /** 8 THINGS, 12 SUITS, all of them OVER, each number another one than at first. */
+    private static QuarrelSales filled() {
+        QuarrelSales x = with(EIGHT, "a0,b1,c2,d3,e4,f5,ah,g1,g2,g3,g4,g5");
+        x.rule(0, 1);
+        x.rule(1, 1);
+        for (int p = 0; p < 6; p++) {
+            x.person(p, 0, 900 + p);
+            x.person(p, 1, 90 + p);
+            x.worth(7, p, 70 + p);
+        }
+        due("all are OVER", x.count(2), 12);
+        return x;
     }
 
     private static QuarrelSales kept() {
