@@ -423,7 +423,10 @@ public final class EdgeTest extends Bench {
         due("as it was then", x.count(4), 7);
         x.wed(0, 1);
         x.part(0, 0);
-        x.thing(1);
+        int fresh = x.thing(1);
+        for (int p = 0; p < 6; p++) {
+            due("WORTH of a THING that comes behind SALES", x.worth(fresh, p, 5), 5);
+        }
         due("no others", x.count(4), 7);
     }
 
